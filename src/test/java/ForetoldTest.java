@@ -51,6 +51,9 @@ public final class ForetoldTest {
         for (int[] b : bad2) {
             DUE.is("later(" + b[0] + ", " + b[1] + ", " + b[2] + ")", BAD, x.later(b[0], b[1], b[2]));
         }
+        x = Due.valley("v0;p3,3;c0,1;");
+        DUE.is("later(0, 9, 0)", 0, x.later(0, 9, 0));
+        DUE.is("later(1, 9, 0)", 9, x.later(1, 9, 0));
         // By hand: bell 0 borrows 2 each day for 10.
         x = Due.valley("v0;p0,3;p2,0;o1,0,13;");
         DUE.is("ahead(1, 0, 0)", 13, x.ahead(1, 0, 0));
@@ -99,6 +102,8 @@ public final class ForetoldTest {
         x = Due.valley("v0;p3,3;p1,1;");
         DUE.is("nobody", NONE, x.first(0));
         DUE.is("never", NONE, x.first(1));
+        x = Due.valley("v0;c0,1;p0,1;");
+        DUE.is("bell 0 is the least", 0, x.first(0));
         x = Due.valley("v0;c0,0;p0,1;");
         DUE.is("the bell of the first day", 1, x.first(0));
         DUE.is("the first day", 1, x.first(1));
@@ -117,6 +122,7 @@ public final class ForetoldTest {
         payments("o0,1,5;o1,2,5;", 1, 5);
         payments("o0,1,5;o1,2,5;o2,0,5;", 0, 0);
         payments("o0,1,5;o1,2,7;", 2, 7);
+        payments("o1,0,5;o2,0,7;", 2, 12);
         payments("o0,1,5;o2,3,5;o4,5,5;", 3, 15);
         payments("o0,1,5;o2,3,6;o4,5,7;", 3, 18);
         // NETS -1 -2 3 | -4 -5 9: two groups, told so that no pair is even by itself.
@@ -142,6 +148,7 @@ public final class ForetoldTest {
         circle("o0,1,5;o1,2,4;o2,0,6;", 12, 4);
         circle("o0,1,3;o1,2,4;o2,0,6;", 12, 3);
         circle("o0,1,9;o1,2,9;o2,0,8;", 12, 8);
+        circle("o0,1,9;o1,2,1;o2,0,8;", 12, 1);
         circle("o1,0,5;o2,1,5;o0,2,5;", 21, 5);
         circle("o1,2,5;o2,3,5;o3,1,5;", 123, 5);
         circle("o0,3,7;o3,1,9;o1,0,9;o1,2,1;o2,3,1;", 31, 7);
@@ -268,6 +275,8 @@ public final class ForetoldTest {
         x.days(1);
         stones(x, 0, 7, 7, 10);
         x = Due.valley("v0;d1,0;d1,0;d1,0;d1,0;d1,0;p1,1;");
+        stones(x, 5, 1, 1, 1000000);
+        stones(x, 5, 9, 531441, 1000000);
         stones(x, 5, 3, 729, 1000000);
         int[][] bad = {{6, 0, 0}, {-1, 0, 0}, {0, 11, 0}, {0, -1, 0}, {0, 0, 2}, {0, 0, -1}};
         for (int[] b : bad) {

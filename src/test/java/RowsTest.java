@@ -53,6 +53,10 @@ public final class RowsTest {
         item(x, 3, 4, true);
         DUE.is("row(3, 0, 5) anew", 5, x.row(3, 0, 5));
         item(x, 3, 4, false);
+        x.set(3, 0, 9);
+        item(x, 3, 0, true);
+        x.row(3, 0, 5);
+        item(x, 3, 0, false);
         DUE.is("its lane is another", -56, x.set(3, 4, 200));
         DUE.is("count(0) anew", 3, x.count(0));
     }
