@@ -1,6 +1,7 @@
 /** What the tests have in common: answers that are due, and texts that are fed. */
 final class Due {
     private final String test;
+    private String sentence = "";
     private int checked;
     private int wrong;
 
@@ -8,11 +9,23 @@ final class Due {
         this.test = test;
     }
 
+    /** The sentence of the document by which the answers from now on are due. */
+    void by(String words) {
+        sentence = words;
+    }
+
+    int checked() {
+        return checked;
+    }
+
     void is(String call, long want, long got) {
         checked++;
         if (got != want) {
             wrong++;
             System.out.println(test + ": " + call + " answered " + got + ", due is " + want);
+            if (!sentence.isEmpty()) {
+                System.out.println("    by " + sentence);
+            }
         }
     }
 

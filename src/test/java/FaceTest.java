@@ -50,6 +50,9 @@ public final class FaceTest {
             due.is("static inside: " + inside, 1, Modifier.isStatic(inside.getModifiers()) ? 1 : 0);
             due.is("hidden inside: " + inside, 0,
                 inside.getModifiers() & (Modifier.PUBLIC | Modifier.PROTECTED));
+            for (Method m : inside.getDeclaredMethods()) {
+                due.is("no method inside bears a public name: " + m, 0, names.contains(m.getName()) ? 1 : 0);
+            }
         }
         due.end();
     }
